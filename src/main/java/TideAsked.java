@@ -96,7 +96,7 @@ public final class TideAsked {
             case 1:
                 return shore.depths[boat];
             case 2:
-                return shore.floats(boat, shore.sea.tide) ? 1 : 0;
+                return shore.sea.tide >= shore.leastTide(boat) ? 1 : 0;
             case 3:
                 return shore.leastTide(boat);
             default:
@@ -147,7 +147,7 @@ public final class TideAsked {
         if (shore.times >= MOST_TIMES) {
             return FULL;
         }
-        shore.sea.hear(shore.kinds[asker], shore.manners[asker]);
+        shore.letAsk(asker, shore.sea);
         shore.times++;
         return shore.sea.tide;
     }
@@ -250,7 +250,7 @@ public final class TideAsked {
         if (!shore.hasAsker(asker)) {
             return UNKNOWN;
         }
-        if (tide < 0 || tide > MOST_TIDE) {
+        if (!isTide(tide)) {
             return OUTSIDE;
         }
         return shore.keepSeen(asker, tide) ? shore.seen : FULL;
@@ -369,7 +369,8 @@ public final class TideAsked {
             for (int what = 0; what <= 3; what++) {
                 h = mix(h, boat(i, what));
             }
-            h = mix(mix(h, odds(i, 5, 0)), odds(i, 5, 1));
+            chances.find(shore, i, 5);
+            h = mix(mix(h, chances.above), chances.below);
         }
         return h;
     }
@@ -407,6 +408,10 @@ public final class TideAsked {
 
     private static boolean isKind(int number) {
         return number >= ASKER && number <= FOREIGNER;
+    }
+
+    private static boolean isTide(int number) {
+        return number >= 0 && number <= MOST_TIDE;
     }
 
     private static boolean isPlace(int what) {
@@ -550,6 +555,13 @@ public final class TideAsked {
             return asker >= 0 && asker < askers;
         }
 
+        // What would be is asked of a sea of its own, not of the one before this shore.
+        void letAsk(int asker, Sea on) {
+            if (hasAsker(asker)) {
+                on.hear(kinds[asker], manners[asker]);
+            }
+        }
+
         boolean reaches(int sand, int tide) {
             for (int i = 0; i <= sand && i < sands; i++) {
                 if (heights[i] >= tide) {
@@ -557,10 +569,6 @@ public final class TideAsked {
                 }
             }
             return true;
-        }
-
-        boolean floats(int boat, int tide) {
-            return tide >= leastTide(boat);
         }
 
         int leastTide(int boat) {
@@ -586,7 +594,7 @@ public final class TideAsked {
         int boatsAfloat(int tide) {
             int many = 0;
             for (int i = 0; i < boats; i++) {
-                if (floats(i, tide)) {
+                if (tide >= leastTide(i)) {
                     many++;
                 }
             }
@@ -780,7 +788,7 @@ public final class TideAsked {
         private void tryLine(Shore shore) {
             sea.become(shore.sea);
             for (int i = 0; i < askers; i++) {
-                sea.hear(shore.kinds[line[i]], shore.manners[line[i]]);
+                shore.letAsk(line[i], sea);
             }
             int floats = shore.boatsAfloat(sea.tide);
             if (isBetter(floats)) {
@@ -871,7 +879,7 @@ public final class TideAsked {
         private void goOn(Shore shore, int at) {
             for (int i = 0; i < shore.askers; i++) {
                 sea.becomeCode(queue[at]);
-                sea.hear(shore.kinds[i], shore.manners[i]);
+                shore.letAsk(i, sea);
                 meet(sea.code(), at, i);
             }
             sea.becomeCode(queue[at]);
@@ -930,7 +938,7 @@ public final class TideAsked {
             for (int i = 0; i < shore.askers; i++) {
                 if ((comers & 1 << i) != 0) {
                     weight *= tenths;
-                    sea.hear(shore.kinds[i], shore.manners[i]);
+                    shore.letAsk(i, sea);
                 } else {
                     weight *= 10 - tenths;
                 }
@@ -961,7 +969,9 @@ public final class TideAsked {
 
         Sea seaAfter(Shore shore, int asker, int manners) {
             sea.become(shore.sea);
-            sea.hear(shore.kinds[asker], manners);
+            if (shore.hasAsker(asker)) {
+                sea.hear(shore.kinds[asker], manners);
+            }
             return sea;
         }
 
@@ -972,7 +982,7 @@ public final class TideAsked {
             Arrays.fill(falls, 0);
             for (int manners = 0; manners <= MOST_DIGIT; manners++) {
                 int tide = seaAfter(shore, asker, manners).tide;
-                if (shore.agreesWithSeen(asker, tide)) {
+                if (isTide(tide) && shore.agreesWithSeen(asker, tide)) {
                     left |= 1 << manners;
                     falls[tide]++;
                     unlikeTides += falls[tide] == 1 ? 1 : 0;
@@ -1009,8 +1019,7 @@ public final class TideAsked {
                 if (next(4) == 0) {
                     sea.hearThanks();
                 } else {
-                    int who = next(shore.askers);
-                    sea.hear(shore.kinds[who], shore.manners[who]);
+                    shore.letAsk(next(shore.askers), sea);
                 }
                 floated += shore.boatsAfloat(sea.tide);
             }

@@ -86,6 +86,8 @@ public final class LanguageTest {
             }
             yes(one + " has twenty fields at most", own <= 20);
             for (Method method : one.getDeclaredMethods()) {
+                yes(method + " bears no name of the face", one == TideAsked.class
+                        || FACE.stream().noneMatch(of -> of.split(" ")[1].equals(method.getName())));
                 yes(method + " takes seven at most", method.getParameterCount() <= 7);
             }
         }
